@@ -38,7 +38,7 @@ public final class LostPlaces {
     private boolean hasPicture = false;
     private final Guess guess = new Guess(room, likings, evening, now);
     private final Game game = new Game(room, evening, now);
-    private final Branches branches = new Branches(room, evening, now);
+    private final Branches branches = new Branches(room, likings, evening, now);
 
     public LostPlaces() {
         for (int i = 0; i < tastes.length; i++) tastes[i] = new Taste();
@@ -770,7 +770,7 @@ public final class LostPlaces {
         private static final int DEEPEST = 6;
 
         private final Tape tape;
-        private Taste into = null;
+        private Taste into = new Taste();
 
         TasteReader(Tape tape) {
             this.tape = tape;
@@ -890,52 +890,74 @@ public final class LostPlaces {
     /** How each likes each seat, minute by minute, by the taste that holds. */
     private static final class Likings {
         private static final int MOST_LIKED = 999;
-        // minutes of one room stay below this, so that rows of two tastes never bear one mark
+        private static final int ROW = MOST_SITTERS * MOST_SEATS;
+        // minutes stay below this, so that rows of two tastes never bear one mark
         private static final int MARKS = 128;
 
         private final Room room;
-        private final int[] table = new int[MOST_MINUTES * MOST_SITTERS * MOST_SEATS];
+        private final int[] table = new int[MOST_MINUTES * ROW];
+        // by minutes: the row of the table that holds, and the minute up to which it does
+        private final int[] rows = new int[MOST_MINUTES];
+        private final int[] tills = new int[MOST_MINUTES];
         private final int[] letters = new int[Taste.LETTERS.length()];
-        private boolean byMinutes = false;
-        private int renewals = 0;
+        // another number whenever anything may be liked otherwise
+        int renewals = 0;
 
         Likings(Room room) {
             this.room = room;
         }
 
-        /** Where no taste looks at the minute, one row ahead of the film and one in it are enough. */
+        /** Works all out anew; a minute liked as the one ahead of it has that one's row. */
         void renew(Taste held) {
             renewals++;
-            byMinutes = held != null && held.tellsMinute;
-            if (byMinutes) {
-                for (int m = 0; m <= room.ends && m < MOST_MINUTES; m++) fill(m, m, m >= room.film, held);
-            } else {
-                fill(0, 0, false, held);
-                fill(1, 0, true, held);
+            boolean byMinutes = held != null && held.tellsMinute;
+            int last = room.ends < MOST_MINUTES ? room.ends : MOST_MINUTES - 1;
+            for (int m = 0; m <= last; m++) {
+                boolean asAhead = m > 0 && !byMinutes && m != room.film;
+                if (!asAhead) {
+                    fill(m, held);
+                    asAhead = m > 0 && isAlike(m, rows[m - 1]);
+                }
+                rows[m] = asAhead ? rows[m - 1] : m;
+            }
+            for (int m = last; m >= 0; m--) {
+                tills[m] = m < last && rows[m + 1] == rows[m] ? tills[m + 1] : m + 1;
             }
         }
 
-        private void fill(int row, int minute, boolean inFilm, Taste held) {
+        private void fill(int minute, Taste held) {
             for (int p = 0; p < room.sitters; p++) {
                 for (int s = 0; s < room.seats; s++) {
                     letters[0] = room.worth[s];
-                    letters[1] = inFilm ? room.more[s] : 0;
+                    letters[1] = minute < room.film ? 0 : room.more[s];
                     letters[2] = room.stands[s];
                     letters[3] = room.quick[p];
                     letters[4] = minute;
                     letters[5] = p;
                     int worth = held == null ? letters[0] + letters[1] : held.worth(letters);
-                    int at = (row * MOST_SITTERS + p) * MOST_SEATS + s;
-                    if (at >= 0 && at < table.length) {
-                        table[at] = worth < 0 ? 0 : worth > MOST_LIKED ? MOST_LIKED : worth;
-                    }
+                    int at = minute * ROW + p * MOST_SEATS + s;
+                    if (at < 0 || at >= table.length) continue;
+                    table[at] = worth < 0 ? 0 : worth > MOST_LIKED ? MOST_LIKED : worth;
                 }
             }
         }
 
+        private boolean isAlike(int row, int other) {
+            for (int p = 0; p < room.sitters; p++) {
+                for (int s = 0; s < room.seats; s++) {
+                    if (at(row, p, s) != at(other, p, s)) return false;
+                }
+            }
+            return true;
+        }
+
         int row(int minute) {
-            if (byMinutes) return minute;
-            return minute < room.film ? 0 : 1;
+            return minute >= 0 && minute < rows.length ? rows[minute] : 0;
+        }
+
+        /** The first minute behind this one that is liked otherwise. */
+        int till(int minute) {
+            return minute >= 0 && minute < tills.length ? tills[minute] : minute;
         }
 
         int mark(int row) {
@@ -945,7 +967,7 @@ public final class LostPlaces {
         /** The floor, and being away, is liked by none. */
         int at(int row, int sitter, int seat) {
             if (seat < 0) return 0;
-            int at = (row * MOST_SITTERS + sitter) * MOST_SEATS + seat;
+            int at = row * ROW + sitter * MOST_SEATS + seat;
             return at >= 0 && at < table.length ? table[at] : 0;
         }
     }
@@ -991,7 +1013,8 @@ public final class LostPlaces {
             }
         }
 
-        void copyFrom(Hall other) {
+        /** All but the log: who guesses asks for none. */
+        void beginAs(Hall other) {
             System.arraycopy(other.where, 0, where, 0, MOST_SITTERS);
             System.arraycopy(other.till, 0, till, 0, MOST_SITTERS);
             System.arraycopy(other.keep, 0, keep, 0, MOST_SITTERS);
@@ -999,10 +1022,27 @@ public final class LostPlaces {
             System.arraycopy(other.on, 0, on, 0, MOST_SEATS);
             System.arraycopy(other.keptFor, 0, keptFor, 0, MOST_SEATS);
             System.arraycopy(other.keptTill, 0, keptTill, 0, MOST_SEATS);
-            System.arraycopy(other.entries, 0, entries, 0, MOST_LOG * PARTS);
             minute = other.minute;
             moves = other.moves;
             settled = other.settled;
+        }
+
+        void copyFrom(Hall other) {
+            beginAs(other);
+            System.arraycopy(other.entries, 0, entries, 0, MOST_LOG * PARTS);
+        }
+
+        /** Whether both go on alike, whatever joy there was by now. */
+        boolean goesOnAs(Hall other) {
+            if (minute != other.minute) return false;
+            for (int p = 0; p < MOST_SITTERS; p++) {
+                boolean alike = where[p] == other.where[p] && till[p] == other.till[p] && keep[p] == other.keep[p];
+                if (!alike) return false;
+            }
+            for (int s = 0; s < MOST_SEATS; s++) {
+                if (keptFor[s] != other.keptFor[s] || keptTill[s] != other.keptTill[s]) return false;
+            }
+            return true;
         }
 
         /** From where it is to a seat, to the floor (NONE) or AWAY. */
@@ -1127,7 +1167,11 @@ public final class LostPlaces {
         /** Minutes go by up to this one, or to the end. */
         void run(Hall hall, int until) {
             int last = until < room.ends ? until : room.ends;
-            for (int n = 0; n < MOST_MINUTES && hall.minute < last; n++) pass(hall);
+            for (int n = 0; n < MOST_MINUTES && hall.minute < last; n++) {
+                pass(hall);
+                int till = calmTill(hall, last);
+                if (till > hall.minute) enjoy(hall, till);
+            }
         }
 
         void pass(Hall hall) {
@@ -1136,8 +1180,31 @@ public final class LostPlaces {
             sendOut(hall);
             takeBack(hall, row);
             moveUp(hall, row);
-            for (int p = 0; p < room.sitters; p++) hall.joy[p] += likings.at(row, p, hall.where[p]);
-            hall.minute++;
+            enjoy(hall, hall.minute + 1);
+        }
+
+        /** All stay where they are and have their joy, up to that minute. */
+        private void enjoy(Hall hall, int until) {
+            int row = likings.row(hall.minute);
+            int minutes = until - hall.minute;
+            for (int p = 0; p < room.sitters; p++) hall.joy[p] += minutes * likings.at(row, p, hall.where[p]);
+            hall.minute = until;
+        }
+
+        // minutes in which nothing can happen are many, and guesses run through all of them again and again
+        private int calmTill(Hall hall, int last) {
+            int minute = hall.minute;
+            if (hall.settled != likings.mark(likings.row(minute))) return minute;
+            int till = earlier(last, likings.till(minute), minute);
+            for (int s = 0; s < room.seats; s++) till = earlier(till, hall.keptTill[s], minute);
+            for (int p = 0; p < room.sitters; p++) till = earlier(till, hall.till[p], minute);
+            for (int g = 0; g < room.goings; g++) till = earlier(till, room.leaves[g], minute);
+            return moreWho == NONE ? till : earlier(till, moreLeaves, minute);
+        }
+
+        /** The earlier of both; what lies behind the minute does not count. */
+        private static int earlier(int till, int other, int minute) {
+            return other >= minute && other < till ? other : till;
         }
 
         private void release(Hall hall) {
@@ -1253,13 +1320,13 @@ public final class LostPlaces {
         }
 
         void pass(int minutes) {
-            hall.copyFrom(now);
+            hall.beginAs(now);
             evening.run(hall, now.minute + minutes);
         }
 
         /** Found: the moves; value: who is on the seat that was left. */
         void leave(int sitter) {
-            hall.copyFrom(now);
+            hall.beginAs(now);
             int from = now.where[sitter];
             hall.getUp(sitter, 1, true);
             found = evening.moveUp(hall, likings.row(hall.minute));
@@ -1271,7 +1338,7 @@ public final class LostPlaces {
             found = NONE;
             for (int n = 0; n < most && now.minute + n < room.ends; n++) {
                 evening.addGoing(sitter, now.minute + n, minutes);
-                hall.copyFrom(now);
+                hall.beginAs(now);
                 evening.run(hall, room.ends);
                 evening.dropGoing();
                 offer(now.minute + n, hall.joy[sitter], n == 0);
@@ -1285,7 +1352,7 @@ public final class LostPlaces {
         }
 
         int joyKeeping(int sitter, int minutes) {
-            hall.copyFrom(now);
+            hall.beginAs(now);
             hall.keep[sitter] = minutes;
             evening.run(hall, room.ends);
             return hall.joy[sitter];
@@ -1293,12 +1360,12 @@ public final class LostPlaces {
 
         /** Found: the seat, or the floor, to be on; value: the joy by it. */
         void findPlace(int sitter) {
-            hall.copyFrom(now);
+            hall.beginAs(now);
             evening.run(hall, room.ends);
             offer(now.where[sitter], hall.joy[sitter], true);
             for (int s = 0; s < room.seats; s++) {
                 if (!now.isFree(s)) continue;
-                hall.copyFrom(now);
+                hall.beginAs(now);
                 hall.put(sitter, s);
                 evening.run(hall, room.ends);
                 offer(s, hall.joy[sitter], false);
@@ -1307,7 +1374,7 @@ public final class LostPlaces {
 
         int sureSeats(int sitter) {
             int bits = (1 << room.seats) - 1;
-            hall.copyFrom(now);
+            hall.beginAs(now);
             evening.run(hall, room.film);
             for (int n = 0; n < MOST_MINUTES && hall.minute < room.ends; n++) {
                 evening.pass(hall);
@@ -1318,7 +1385,7 @@ public final class LostPlaces {
         }
 
         void breakUp() {
-            hall.copyFrom(now);
+            hall.beginAs(now);
             for (int p = 0; p < room.sitters; p++) {
                 if (hall.where[p] != AWAY) hall.getUp(p, 1, false);
             }
@@ -1328,7 +1395,7 @@ public final class LostPlaces {
         /** Found: how many minutes all should keep; value: the moves by it. */
         void findRule() {
             for (int k = 0; k <= 9; k++) {
-                hall.copyFrom(now);
+                hall.beginAs(now);
                 for (int p = 0; p < room.sitters; p++) hall.keep[p] = k;
                 evening.run(hall, room.ends);
                 // fewer moves are better, so they are offered as what is missing
@@ -1415,7 +1482,7 @@ public final class LostPlaces {
         }
 
         private void tryOut(int outcome) {
-            hall.copyFrom(now);
+            hall.beginAs(now);
             if (outcome < NOBODY_GOES) {
                 evening.addGoing(here[outcome % MOST_HERE], now.minute + outcome / MOST_HERE, 1);
             }
@@ -1482,6 +1549,7 @@ public final class LostPlaces {
         static final int MOST_ORDERED = 5;
 
         private final Room room;
+        private final Likings likings;
         private final Evening evening;
         private final Hall now;
         // one hall a depth: what ways have in common is gone through once
@@ -1495,9 +1563,14 @@ public final class LostPlaces {
         private final int[] coming = new int[MOST_GOINGS];
         private int comingCount = 0;
         private final boolean[] fits = new boolean[1 << MOST_GOINGS];
+        // sets are asked for one by one: they are found once as long as nothing they come from is another
+        private final Hall asked = new Hall();
+        private int askedLikings = NONE;
+        private int askedTold = NONE;
 
-        Branches(Room room, Evening evening, Hall now) {
+        Branches(Room room, Likings likings, Evening evening, Hall now) {
             this.room = room;
+            this.likings = likings;
             this.evening = evening;
             this.now = now;
             for (int i = 0; i < halls.length; i++) halls[i] = new Hall();
@@ -1506,7 +1579,7 @@ public final class LostPlaces {
         void findOrder(int minutes) {
             lasts = minutes;
             bestGap = NONE;
-            halls[0].copyFrom(now);
+            halls[0].beginAs(now);
             order(0, 0, 0);
         }
 
@@ -1525,7 +1598,7 @@ public final class LostPlaces {
             for (int p = 0; p < room.sitters; p++) {
                 if ((gone >> p & 1) != 0) continue;
                 Hall next = halls[depth + 1];
-                next.copyFrom(hall);
+                next.beginAs(hall);
                 evening.addGoing(p, next.minute, lasts);
                 evening.pass(next);
                 evening.dropGoing();
@@ -1551,11 +1624,8 @@ public final class LostPlaces {
 
         /** How many sets fit (i NONE), or the i-th. */
         int findSets(int i) {
-            lineUp();
-            for (int set = 0; set < fits.length; set++) fits[set] = false;
-            halls[0].copyFrom(now);
-            choose(0, 0);
-            evening.happening = Evening.ALL_GOINGS;
+            boolean known = askedLikings == likings.renewals && askedTold == toldCount && asked.goesOnAs(now);
+            if (!known) tryAllSets();
             int sets = 0;
             for (int set = 0; set < fits.length; set++) {
                 if (!fits[set]) continue;
@@ -1563,6 +1633,17 @@ public final class LostPlaces {
                 sets++;
             }
             return i == NONE ? sets : NONE;
+        }
+
+        private void tryAllSets() {
+            lineUp();
+            for (int set = 0; set < fits.length; set++) fits[set] = false;
+            halls[0].beginAs(now);
+            choose(0, 0);
+            evening.happening = Evening.ALL_GOINGS;
+            asked.beginAs(now);
+            askedLikings = likings.renewals;
+            askedTold = toldCount;
         }
 
         /** The goings of this minute or a later one, by their minutes. */
@@ -1589,9 +1670,9 @@ public final class LostPlaces {
             int minute = room.leaves[coming[depth]];
             evening.happening = set;
             evening.run(hall, minute);
-            halls[depth + 1].copyFrom(hall);
+            halls[depth + 1].beginAs(hall);
             choose(depth + 1, set);
-            halls[depth + 1].copyFrom(hall);
+            halls[depth + 1].beginAs(hall);
             choose(depth + 1, set | 1 << coming[depth]);
         }
     }
