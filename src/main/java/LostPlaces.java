@@ -526,32 +526,29 @@ public final class LostPlaces {
             ends = endMinute;
         }
 
-        boolean addSeat(int w, int f, int x) {
-            if (seats < 0 || seats >= MOST_SEATS) return false;
+        void addSeat(int w, int f, int x) {
+            if (seats < 0 || seats >= MOST_SEATS) return;
             worth[seats] = w;
             more[seats] = f;
             stands[seats] = x;
             seats++;
-            return true;
         }
 
-        boolean addSitter(int s, int q, int b, int k) {
-            if (sitters < 0 || sitters >= MOST_SITTERS) return false;
+        void addSitter(int s, int q, int b, int k) {
+            if (sitters < 0 || sitters >= MOST_SITTERS) return;
             begins[sitters] = s;
             quick[sitters] = q;
             step[sitters] = b;
             keep[sitters] = k;
             sitters++;
-            return true;
         }
 
-        boolean addGoing(int p, int m, int d) {
-            if (goings < 0 || goings >= MOST_GOINGS) return false;
+        void addGoing(int p, int m, int d) {
+            if (goings < 0 || goings >= MOST_GOINGS) return;
             goer[goings] = p;
             leaves[goings] = m;
             lasts[goings] = d;
             goings++;
-            return true;
         }
 
         /** Whether every seat and every sitter named has been told, and no seat twice. */

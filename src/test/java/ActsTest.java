@@ -40,7 +40,10 @@ public final class ActsTest {
         x.go(1);
         due("up(1, 1)", x.up(1, 1), 2);
         Check.places(x, -2, -2, -2);
-        x.go(4);
+        x.go(3);
+        due("up(0, 1), a minute left", x.up(0, 1), 5);
+        x.undo();
+        x.go(1);
         due("up(0, 1) at the end", x.up(0, 1), -1);
         Check.places(x, 0, 1, -2);
     }
@@ -317,6 +320,10 @@ public final class ActsTest {
         due("the latest", x.log(0, 3), 69);
         due("the 60th", x.log(59, 3), 10);
         due("the 61st", x.log(60, 3), -1000000);
+        for (int i = 0; i < 60; i++) {
+            int odd = (69 - i) % 2;
+            Check.move(x, i, 0, 1 - odd, odd, 69 - i);
+        }
         x.undo();
         due("the latest behind undo()", x.log(0, 3), 68);
         due("the 60th behind undo()", x.log(59, 3), 9);

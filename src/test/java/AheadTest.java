@@ -62,10 +62,16 @@ public final class AheadTest {
         due("chain(-1, 0)", near.chain(-1, 0), HIDDEN);
         due("chain(0, 2)", near.chain(0, 2), HIDDEN);
         due("chain(0, -1)", near.chain(0, -1), HIDDEN);
+        due("chain(0, 2)", near.chain(0, 2), HIDDEN);
+        near.go(1);
+        due("chain(1, 0), a minute left", near.chain(1, 0), 2);
         near.up(0, 2);
         due("chain(0, 0), away", near.chain(0, 0), HIDDEN);
-        near.go(2);
+        near.go(1);
         due("chain(1, 0) at the end", near.chain(1, 0), HIDDEN);
+        LostPlaces moved = Check.room("sw9;sw5;p;ps1;et5");
+        moved.go(1);
+        due("moves there were do not count", moved.chain(1, 0), 1);
     }
 
     private static void promise21() {
@@ -85,7 +91,9 @@ public final class AheadTest {
         x.go(2);
         due("when(0, 1, 1, 0)", x.when(0, 1, 1, 0), 2);
         due("when(0, 1, 1, 1)", x.when(0, 1, 1, 1), 28);
-        x.go(3);
+        x.go(2);
+        due("when(0, 1, 9, 0), a minute left", x.when(0, 1, 9, 0), 4);
+        x.go(1);
         due("when(0, 1, 1, 0) at the end", x.when(0, 1, 1, 0), HIDDEN);
         LostPlaces alike = Check.room("s;ps0;et5");
         due("the first of several", alike.when(0, 1, 30, 0), 0);

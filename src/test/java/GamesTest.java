@@ -96,6 +96,7 @@ public final class GamesTest {
         due("call(0, 0, 0), nobody is here", x.call(0, 0, 0), HIDDEN);
         due("rests(0, -1), nobody is here", x.rests(0, -1), HIDDEN);
         LostPlaces over = Check.room("s;ps0;et1");
+        due("rests(0, -1), a minute left", over.rests(0, -1), 4);
         over.go(1);
         due("call(0, 0, 0) at the end", over.call(0, 0, 0), HIDDEN);
         due("rests(0, -1) at the end", over.rests(0, -1), HIDDEN);
@@ -229,6 +230,16 @@ public final class GamesTest {
         // what is liked otherwise ends otherwise
         Check.taste(x, "y:9-w");
         been(x);
+        // what is kept alone tells these two ways apart
+        LostPlaces kept = Check.room("sw9;sw5;ps0;ps1;et4");
+        kept.tells(1, 0);
+        kept.up(0, 2);
+        been(kept, 0);
+        kept.undo();
+        kept.keeps(0, 3);
+        kept.up(0, 2);
+        kept.keeps(0, 0);
+        been(kept);
         // goings behind the end are later ones too
         LostPlaces behind = Check.room("s;ps0;gm1d1;gm9;et4");
         been(behind, 0, 1, 2, 3);
