@@ -337,7 +337,9 @@ public final class LostPlaces {
     }
 
     public int been(int i) {
-        return hasRoom() ? branches.findSets(i) : NONE;
+        if (!hasRoom()) return NONE;
+        branches.findSets();
+        return branches.fitting(i);
     }
 
     // ---- who is better off
@@ -1005,6 +1007,7 @@ public final class LostPlaces {
             }
             minute = 0;
             moves = 0;
+            settled = NONE;
             for (int p = 0; p < room.sitters && p < MOST_SITTERS; p++) {
                 if (room.begins[p] < room.seats) put(p, room.begins[p]);
             }
@@ -1042,8 +1045,22 @@ public final class LostPlaces {
             return true;
         }
 
+        private static boolean isSitter(int sitter) {
+            return sitter >= 0 && sitter < MOST_SITTERS;
+        }
+
+        private static boolean isSeat(int seat) {
+            return seat >= 0 && seat < MOST_SEATS;
+        }
+
+        /** Who is on a seat; NONE for the floor too. */
+        int sitterOn(int seat) {
+            return isSeat(seat) ? on[seat] : NONE;
+        }
+
         /** From where it is to a seat, to the floor (NONE) or AWAY. */
         void put(int sitter, int to) {
+            if (sitter < 0 || sitter >= MOST_SITTERS) return;
             int from = where[sitter];
             if (from >= 0 && from < MOST_SEATS) on[from] = NONE;
             if (to >= 0 && to < MOST_SEATS) on[to] = sitter;
@@ -1053,16 +1070,18 @@ public final class LostPlaces {
         }
 
         void getUp(int sitter, int minutes, boolean keeping) {
+            if (!isSitter(sitter)) return;
             int from = where[sitter];
             put(sitter, AWAY);
             till[sitter] = minute + minutes;
-            if (keeping && keep[sitter] > 0 && from >= 0 && from < MOST_SEATS) {
+            if (keeping && keep[sitter] > 0 && isSeat(from)) {
                 keptFor[from] = sitter;
                 keptTill[from] = minute + keep[sitter];
             }
         }
 
         void change(int one, int other) {
+            if (!isSitter(one) || !isSitter(other)) return;
             int from = where[one];
             int to = where[other];
             put(one, NONE);
@@ -1071,16 +1090,18 @@ public final class LostPlaces {
         }
 
         boolean isFree(int seat) {
-            return on[seat] == NONE && keptFor[seat] == NONE;
+            return seat >= 0 && seat < MOST_SEATS && on[seat] == NONE && keptFor[seat] == NONE;
         }
 
         void release(int seat) {
+            if (seat < 0 || seat >= MOST_SEATS) return;
             keptFor[seat] = NONE;
             keptTill[seat] = NONE;
             settled = NONE;
         }
 
         void moveUp(int sitter, int to) {
+            if (!isSitter(sitter)) return;
             int base = moves % MOST_LOG * PARTS;
             if (base >= 0 && base + PARTS <= entries.length) {
                 entries[base] = sitter;
@@ -1327,7 +1348,7 @@ public final class LostPlaces {
             int from = now.where[sitter];
             hall.getUp(sitter, 1, true);
             found = evening.moveUp(hall, likings.row(hall.minute));
-            value = from >= 0 && from < MOST_SEATS ? hall.on[from] : NONE;
+            value = hall.sitterOn(from);
         }
 
         /** Found: the minute in which to go; value: the joy by it. */
@@ -1619,20 +1640,9 @@ public final class LostPlaces {
             return true;
         }
 
-        /** How many sets fit (i NONE), or the i-th. */
-        int findSets(int i) {
+        void findSets() {
             boolean known = askedLikings == likings.renewals && askedTold == toldCount && asked.goesOnAs(now);
-            if (!known) tryAllSets();
-            int sets = 0;
-            for (int set = 0; set < fits.length; set++) {
-                if (!fits[set]) continue;
-                if (sets == i) return set;
-                sets++;
-            }
-            return i == NONE ? sets : NONE;
-        }
-
-        private void tryAllSets() {
+            if (known) return;
             lineUp();
             for (int set = 0; set < fits.length; set++) fits[set] = false;
             halls[0].beginAs(now);
@@ -1641,6 +1651,17 @@ public final class LostPlaces {
             asked.beginAs(now);
             askedLikings = likings.renewals;
             askedTold = toldCount;
+        }
+
+        /** How many sets fit (i NONE), or the i-th. */
+        int fitting(int i) {
+            int sets = 0;
+            for (int set = 0; set < fits.length; set++) {
+                if (!fits[set]) continue;
+                if (sets == i) return set;
+                sets++;
+            }
+            return i == NONE ? sets : NONE;
         }
 
         /** The goings of this minute or a later one, by their minutes. */
