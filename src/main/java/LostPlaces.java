@@ -573,7 +573,12 @@ public final class LostPlaces {
     private static final class RoomReader {
         static final int FLOOR = 8;
         private static final int ITEMS = 4;
+        // kinds of clauses, as their letters stand in KINDS
         private static final String KINDS = "spge";
+        private static final int SEAT = 0;
+        private static final int SITTER = 1;
+        private static final int GOING = 2;
+        private static final int EVENING = 3;
         // by kinds, four items each; letters of one kind are told apart in lettersOf
         private static final int[] LEAST = {0, 0, 0, 0, 0, 0, 1, 0, 0, 0, 1, 0, 0, 1, 0, 0};
         private static final int[] MOST = {99, 99, 19, 0, 8, 9, 99, 9, 7, 99, 9, 0, 99, 99, 0, 0};
@@ -590,7 +595,7 @@ public final class LostPlaces {
         int read(Room into) {
             tape.rewind();
             into.clear();
-            into.setEvening(UNTOLD[12], UNTOLD[13]);
+            into.setEvening(UNTOLD[EVENING * ITEMS], UNTOLD[EVENING * ITEMS + 1]);
             boolean more = true;
             for (int clauses = 0; more && clauses < MOST_BYTES; clauses++) more = readClause(into);
             if (tape.isFine() && !into.isWhole()) tape.fail(tape.length);
@@ -613,24 +618,24 @@ public final class LostPlaces {
 
         private static boolean isFull(Room room, int kind) {
             switch (kind) {
-                case 0: return room.seats >= MOST_SEATS;
-                case 1: return room.sitters >= MOST_SITTERS;
-                case 2: return room.goings >= MOST_GOINGS;
+                case SEAT: return room.seats >= MOST_SEATS;
+                case SITTER: return room.sitters >= MOST_SITTERS;
+                case GOING: return room.goings >= MOST_GOINGS;
                 default: return room.evenings >= 1;
             }
         }
 
         private static String lettersOf(int kind) {
             switch (kind) {
-                case 0: return "wfx";
-                case 1: return "sqbk";
-                case 2: return "pmd";
+                case SEAT: return "wfx";
+                case SITTER: return "sqbk";
+                case GOING: return "pmd";
                 default: return "ft";
             }
         }
 
         private void readItems(int kind) {
-            int base = kind >= 0 && kind < KINDS.length() ? kind * ITEMS : 0;
+            int base = kind >= SEAT && kind <= EVENING ? kind * ITEMS : 0;
             for (int i = 0; i < ITEMS; i++) items[i] = UNTOLD[base + i];
             int seen = 0;
             for (int n = 0; n < MOST_BYTES && !isClauseOver(); n++) {
@@ -653,9 +658,9 @@ public final class LostPlaces {
 
         private void store(Room into, int kind) {
             switch (kind) {
-                case 0: into.addSeat(items[0], items[1], items[2]); break;
-                case 1: into.addSitter(items[0], items[1], items[2], items[3]); break;
-                case 2: into.addGoing(items[0], items[1], items[2]); break;
+                case SEAT: into.addSeat(items[0], items[1], items[2]); break;
+                case SITTER: into.addSitter(items[0], items[1], items[2], items[3]); break;
+                case GOING: into.addGoing(items[0], items[1], items[2]); break;
                 default:
                     into.evenings++;
                     into.setEvening(items[0], items[1]);
