@@ -18,6 +18,14 @@ final class Check {
         System.out.println(call + " answered " + got + ", due is " + want);
     }
 
+    static int asked() {
+        return asked;
+    }
+
+    static int wrong() {
+        return wrong;
+    }
+
     static void due(String call, boolean got, boolean want) {
         due(call, got ? 1 : 0, want ? 1 : 0);
     }
