@@ -305,7 +305,11 @@ public final class ActEdgesTest {
             x.go(many);
             int left = Math.min(many, 40);
             due("count(11) of " + many, x.count(11), left);
-            while (left > 0) due("undo() of " + many, x.undo(), --left);
+            for (int minute = many - 1; left > 0; minute--) {
+                due("undo() of " + many, x.undo(), --left);
+                due("the minute", x.count(6), minute);
+                Check.joys(x, 10 * minute);
+            }
             due("one more undo() of " + many, x.undo(), -1);
             due("the minute", x.count(6), Math.max(0, many - 40));
             Check.joys(x, 10 * Math.max(0, many - 40));
@@ -391,6 +395,10 @@ public final class ActEdgesTest {
         due("count(10)", x.count(10), 55);
         Check.move(x, 0, 0, 0, 1, 55);
         Check.move(x, 54, 0, 0, 1, 1);
+        LostPlaces all = moved(98);
+        for (int i = 0; i < 40; i++) all.undo();
+        due("count(10)", all.count(10), 58);
+        for (int i = 0; i < 58; i++) due("log(" + i + ", 3)", all.log(i, 3), 58 - i);
         LostPlaces fewer = moved(70);
         for (int i = 0; i < 5; i++) fewer.undo();
         due("count(10)", fewer.count(10), 60);
@@ -444,6 +452,19 @@ public final class ActEdgesTest {
         due("count(6)", x.count(6), 1);
         due("count(10)", x.count(10), 1);
         Check.move(x, 0, 2, -1, 1, 0);
+    }
+
+    // Section 4: "An IMAGE keeps .. the LOG": all 60 MOVES of it, whatever comes behind
+    private static void imageKeepsTheWholeLog() {
+        for (int many : new int[] {0, 1, 58, 60}) {
+            LostPlaces x = moved(many);
+            x.image();
+            x.go(38);
+            x.back();
+            due("count(10)", x.count(10), many);
+            for (int i = 0; i < many; i++) due("log(" + i + ", 3) of " + many, x.log(i, 3), many - i);
+            due("log(" + many + ", 3)", x.log(many, 3), Edge.HIDDEN);
+        }
     }
 
     // Section 4: "An IMAGE keeps ..": not the TASTE, RESTLESS, what is TOLD, the TAPE: these stay as they are

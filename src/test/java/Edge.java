@@ -181,8 +181,11 @@ final class Edge {
     private static void questions(List<String> seen, LostPlaces x) {
         int left = x.count(7) - x.count(6);
         int sitters = x.count(1);
+        // these first: what another question left behind would be seen by them
         for (int p = 0; p < sitters && p < 4; p++) {
             add(seen, "ahead " + p, numbers(x.ahead(p, 1, 0), x.ahead(p, left, 0), x.ahead(p, left, 1)));
+        }
+        for (int p = 0; p < sitters && p < 4; p++) {
             add(seen, "chain, when " + p, numbers(x.chain(p, 0), x.chain(p, 1), x.when(p, 2, 5, 0), x.when(p, 2, 5, 1)));
             add(seen, "keeping, best " + p, numbers(x.keeping(p, 2), x.best(p, 0), x.best(p, 1)));
             add(seen, "sure, call " + p, numbers(x.sure(p), x.call(1, 2, p), x.broken(p), x.often(p)));

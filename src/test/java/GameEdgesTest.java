@@ -377,6 +377,61 @@ public final class GameEdgesTest {
         due("been(512)", ten.been(512), -1);
     }
 
+    // Section 3: BEEN: "those that are not in it do not happen": by the question alone: undone minutes have their GOINGS yet
+    private static void beenIsApart() {
+        LostPlaces x = Check.room("s;ps0;gm1d1;gm6d1;et9");
+        x.go(4);
+        been(x, 0, 2);
+        for (int i = 0; i < 4; i++) x.undo();
+        due("ahead(0, 9, 1)", x.ahead(0, 9, 1), 70);
+        x.go(9);
+        Check.joys(x, 70);
+    }
+
+    // Section 3: "(Apart, from as it is ..)": BEEN asked again behind each change: by who sits where, what is kept, KEEPS
+    private static void beenFromAsItIs() {
+        LostPlaces x = Check.room("sw9;sw5;ps0b5;ps1b4;gm1d1;gp1m2d1;et4");
+        x.tells(0, 0);
+        been(x, 0, 2, 3);
+        x.swap(0, 1);
+        been(x, 3);
+        x.undo();
+        been(x, 0, 2, 3);
+        x.keeps(0, 2);
+        been(x, 0, 1, 2, 3);
+        x.up(0, 1);
+        been(x, 0, 1, 2, 3);
+        x.undo();
+        x.keeps(0, 0);
+        x.up(0, 1);
+        been(x);
+        x.undo();
+        been(x, 0, 2, 3);
+        x.image();
+        x.go(2);
+        been(x, 2);
+        x.back();
+        been(x, 0, 2, 3);
+        Check.taste(x, "y:9-w");
+        been(x, 0, 2);
+        x.taste(-1);
+        been(x, 0, 2, 3);
+        x.tells(1, 0);
+        been(x);
+        Check.addRoom(x, "s;ps0;gm1d1;et4");
+        been(x, 0, 1);
+        // kept till the end, and kept till minute 1: all else is alike
+        LostPlaces kept = Check.room("sw9;sw5;ps0;ps1;et9");
+        kept.tells(1, 0);
+        for (int k = 9; k > 0; k -= 8) {
+            kept.keeps(0, k);
+            kept.up(0, 9);
+            kept.keeps(0, 0);
+            due("been(-1), kept till " + k, kept.been(-1), k == 9 ? 0 : 1);
+            for (int i = 0; i < 3; i++) kept.undo();
+        }
+    }
+
     // Section 3: BEEN: "those that are not in it do not happen": of two of one MINUTE the first that is in it
     private static void beenOfThoseThatHappen() {
         LostPlaces x = Check.room("s;ps0;gm0d1;gm0d9;et5");
@@ -457,6 +512,11 @@ public final class GameEdgesTest {
         LostPlaces floor = Check.room("s;p;et9");
         floor.go(1);
         due("warm(), from the floor alone", floor.warm(), -1);
+        LostPlaces latest = Check.room("sw9;sw7;sw5;ps1b4;ps2b2;et9");
+        latest.up(0, 9);
+        latest.go(1);
+        due("count(10)", latest.count(10), 1);
+        due("warm(), by the latest move", latest.warm(), 2);
     }
 
     // Section 3: WARM: "in the LOG", OFTEN: "in the LOG": of the latest 60 MOVES alone

@@ -29,6 +29,42 @@ public final class GuessEdgesTest {
         Edge.apart(Edge::busy, "been", x -> x.been(0));
     }
 
+    private static final int QUESTIONS = 14;
+
+    private static int question(LostPlaces x, int which) {
+        switch (which) {
+            case 0: return x.ahead(0, 8, 1);
+            case 1: return x.ahead(2, 8, 0);
+            case 2: return x.chain(2, 1);
+            case 3: return x.when(2, 3, 8, 1);
+            case 4: return x.when(0, 1, 8, 0);
+            case 5: return x.keeping(1, 9);
+            case 6: return x.best(1, 0);
+            case 7: return x.best(2, 1);
+            case 8: return x.sure(1);
+            case 9: return x.call(12, 3, 1);
+            case 10: return x.rests(3, 0);
+            case 11: return x.broken(1);
+            case 12: return x.fair(2, 0);
+            default: return x.rule(0);
+        }
+    }
+
+    // Section 3: "(Apart ..)": no question leaves anything behind that another one, or the same, would answer by
+    private static void questionsAreApartFromOneAnother() {
+        for (int first = 0; first < QUESTIONS; first++) {
+            for (int second = 0; second < QUESTIONS; second++) {
+                LostPlaces x = Edge.busy();
+                question(x, first);
+                due("question " + second + " behind " + first, question(x, second), question(Edge.busy(), second));
+            }
+        }
+        LostPlaces x = Check.room("sw9;sw1;ps0;ps1b9;et9");
+        due("when(0, 1, 1, 1)", x.when(0, 1, 1, 1), 72);
+        due("best(1, 0) of one with less joy", x.best(1, 0), 1);
+        due("best(1, 1)", x.best(1, 1), 9);
+    }
+
     // Section 3: "from as it is": what was done by now counts: who is away, what is kept, KEEPS, JOY
     private static void fromAsItIs() {
         LostPlaces x = Check.room("sw9;sw5;ps0;ps1;et6");
@@ -56,6 +92,43 @@ public final class GuessEdgesTest {
     private static int[] asked(LostPlaces x) {
         return new int[] {x.ahead(0, 12, 1), x.ahead(2, 12, 0), x.when(0, 1, 12, 1), x.keeping(0, 3), x.best(2, 1), x.sure(0),
             x.call(444, 1, 0), x.rests(1, -1), x.broken(0), x.fair(1, 1), x.rule(1), x.been(-1)};
+    }
+
+    // Terms: "s (a SEAT; 1 .. 8), p (a SITTER; 1 .. 8), g (a GOING; none to 10)", "t END (1 .. 99 ..)": the most of all
+    private static void fullestRoom() {
+        StringBuilder text = new StringBuilder("ef50t99");
+        for (int p = 0; p < 8; p++) text.append(";s;ps").append(p).append("b99;gp").append(p).append('m').append(p).append("d1");
+        LostPlaces x = Check.room(text + ";gp0m98d1;gp7m98d1");
+        for (int p = 0; p < 8; p++) {
+            boolean twice = p == 0 || p == 7;
+            int joy = twice ? 970 : 980;
+            due("ahead(" + p + ", 99, 0)", x.ahead(p, 99, 0), twice ? -2 : p);
+            due("ahead(" + p + ", 99, 1)", x.ahead(p, 99, 1), joy);
+            due("chain(" + p + ", 0)", x.chain(p, 0), 0);
+            due("chain(" + p + ", 1)", x.chain(p, 1), -1);
+            // it loses no more by going a minute ahead of its own going: that finds it away yet
+            due("when(" + p + ", 1, 30, 0)", x.when(p, 1, 30, 0), Math.max(0, p - 1));
+            due("when(" + p + ", 1, 30, 1)", x.when(p, 1, 30, 1), joy);
+            due("keeping(" + p + ", 9)", x.keeping(p, 9), 0);
+            due("best(" + p + ", 0)", x.best(p, 0), p);
+            due("best(" + p + ", 1)", x.best(p, 1), joy);
+            due("sure(" + p + ")", x.sure(p), twice ? 0 : 1 << p);
+            due("broken(" + p + ")", x.broken(p), p);
+            due("ladder(" + p + ")", x.ladder(p), p);
+        }
+        due("rule(0)", x.rule(0), 0);
+        due("rule(1)", x.rule(1), 0);
+        due("been(-1)", x.been(-1), 1024);
+        x.tells(7, -2);
+        due("been(-1)", x.been(-1), 512);
+        due("been(0)", x.been(0), 512);
+        due("envy()", x.envy(), 0);
+        x.go(60);
+        x.go(39);
+        due("even()", x.even(), 10);
+        Check.places(x, -2, 1, 2, 3, 4, 5, 6, -2);
+        Check.joys(x, 970, 980, 980, 980, 980, 980, 980, 970);
+        due("the last seat", x.seat(7, 3), -1);
     }
 
     // ---- ahead
@@ -226,7 +299,7 @@ public final class GuessEdgesTest {
         due("when(0, 9, 9, 1)", x.when(0, 9, 9, 1), 60);
     }
 
-    // Section 3: WHEN as a GOING: what it KEEPS is kept
+    // Section 3: WHEN "(as one GOING more ..)": what it KEEPS is kept
     private static void whenItKeeps() {
         LostPlaces x = Check.room("sw9;sw5;ps0;ps1;et4");
         due("when(0, 1, 1, 1)", x.when(0, 1, 1, 1), 15);
@@ -255,7 +328,7 @@ public final class GuessEdgesTest {
         due("keeping(0, 9) at the end", x.keeping(0, 9), 0);
     }
 
-    // Section 3: KEEPING may be less than 0
+    // Section 3: "KEEPING: JOY at the END of one that KEEPS k minutes from now on, less that with 0": it may be below 0
     private static void keepingLoses() {
         // its kept seat is that it comes back to, though by then another one is liked better, and it is too slow to move up
         LostPlaces x = Check.room("sx0;sx1;ps0b50;gm1d1;et9", "y:m>1?10+x*20;y:10");
@@ -308,7 +381,7 @@ public final class GuessEdgesTest {
         due("best(0, 1)", x.best(0, 1), 9 + 4 * 8);
     }
 
-    // Promise 23: at the END there is no refusal: where it is
+    // Promise 23: "HIDDEN: no such ones, AWAY": nothing of the END: there it is best where it is
     private static void placeAtTheEnd() {
         LostPlaces x = Check.room("sw9;sw5;ps1b9;p;et2");
         x.go(2);
@@ -445,6 +518,15 @@ public final class GuessEdgesTest {
         LostPlaces all = Check.room("sw9;sw5;p;ps1b9;et6");
         due("rule(0), one move by each k", all.rule(0), 0);
         due("rule(1), one move by each k", all.rule(1), 1);
+    }
+
+    // Section 3: RULE: "k (0 .. 9)": not one more, even if fewer MOVES would be made by it
+    private static void ruleOfNoMoreThanNine() {
+        // both come back in minute 9: the quicker one to the seat that is not kept any more, by 10 it would be;
+        // the other one moves up to seat 1 in minute 15, for it is on the floor
+        LostPlaces x = Check.room("sx0;sx1;ps0q1;pq9;gp0m0d9;gp1m0d9;et20", "y:x=1&p=0&m>14?5;y:x=0?9;y:0");
+        due("rule(0)", x.rule(0), 0);
+        due("rule(1)", x.rule(1), 1);
     }
 
     // Section 3: RULE: "that all KEEP": not one alone

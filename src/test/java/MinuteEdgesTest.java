@@ -209,7 +209,8 @@ public final class MinuteEdgesTest {
         due("seat(1, 4)", x.seat(1, 4), -1);
     }
 
-    // Section 2 (1) is ahead of (3): who comes back in the MINUTE till which its SEAT was kept has lost it to one quicker
+    // Section 2: "(1) SEATS kept till this MINUTE are not any more" ahead of (3): who comes back in the MINUTE till which
+    // its SEAT was kept has lost it to one quicker
     private static void notKeptWhenItComesBack() {
         LostPlaces x = Check.room("sw9;sw5;ps0k2q1;ps1q9;et9");
         x.up(0, 2);
@@ -249,7 +250,8 @@ public final class MinuteEdgesTest {
         Check.joys(x, 60);
     }
 
-    // Section 2 (2) is ahead of (3): who is AWAY till this MINUTE is AWAY yet when its GOING is due
+    // Section 2 (2): "a SITTER that is not AWAY gets UP", ahead of (3): who is AWAY till this MINUTE is AWAY yet when its
+    // GOING is due
     private static void goingInTheMinuteOfComingBack() {
         LostPlaces x = after(3, "s;ps0;gm0d2;gm2d5;et9");
         Check.places(x, 0);
@@ -409,7 +411,17 @@ public final class MinuteEdgesTest {
         Check.places(x, -1, 0);
     }
 
-    // Section 2 (3) is behind (2): who goes in this MINUTE leaves its SEAT to who comes back in it
+    // Section 2 (3): "Who is AWAY till this MINUTE comes back": all eight at once, to the last SEAT
+    private static void eightComeBackAtOnce() {
+        LostPlaces x = Check.room("sw8;sw7;sw6;sw5;sw4;sw3;sw2;sw1;pq1;pq2;pq3;pq4;pq5;pq6;pq7;pq8;et9");
+        for (int p = 0; p < 8; p++) x.up(p, 1);
+        x.go(2);
+        Check.places(x, 7, 6, 5, 4, 3, 2, 1, 0);
+        Check.joys(x, 1, 2, 3, 4, 5, 6, 7, 8);
+        moves(x, 0);
+    }
+
+    // Section 2 (3): "Who is AWAY till this MINUTE comes back", behind (2): to a SEAT that another one leaves in it
     private static void seatLeftInThisMinute() {
         LostPlaces x = Check.room("sw9;sw1;ps1;ps0;gp1m1d3;et9");
         x.up(0, 1);
@@ -491,6 +503,7 @@ public final class MinuteEdgesTest {
         Check.places(after(1, "sw20x5;sw1x1;sw1x10;ps2;ps1;et9"), 2, 0);
         Check.places(after(1, "sw20x0;sw1x2;sw1x1;ps1;ps2;et9"), 1, 0);
         Check.places(after(1, "sw20x19;sw1x17;sw1x18;ps1;ps2;et9"), 1, 0);
+        Check.places(after(1, "sw1x4;sw20x5;sw1x9;ps2;ps0;et9"), 2, 1);
     }
 
     // Section 2 (4): "the quickest does (of several the nearest ..)": who is quicker moves up from farther away
@@ -532,6 +545,28 @@ public final class MinuteEdgesTest {
         LostPlaces x = after(1, "sw9;sw6;ps1b3;pb6;et9");
         Check.places(x, 0, 1);
         moves(x, 2);
+    }
+
+    // Section 2 (4): "again, till nobody would": eight on the FLOOR, to eight SEATS
+    private static void eightMoveUpAtOnce() {
+        LostPlaces x = after(1, "sw1;sw2;sw3;sw4;sw5;sw6;sw7;sw8;pq1;pq2;pq3;pq4;pq5;pq6;pq7;pq8;et9");
+        Check.places(x, 0, 1, 2, 3, 4, 5, 6, 7);
+        Check.joys(x, 1, 2, 3, 4, 5, 6, 7, 8);
+        moves(x, 8);
+    }
+
+    // Section 2 (4): "one would, if it LIKES it ..": by the TASTE that holds in this MINUTE, however calm it was by now
+    private static void anotherTasteMovesThem() {
+        LostPlaces x = Check.room("sw9;sw5;ps0;et9");
+        x.go(2);
+        Check.taste(x, "y:20-w");
+        x.go(1);
+        Check.places(x, 1);
+        x.taste(-1);
+        due("ahead(0, 1, 0)", x.ahead(0, 1, 0), 0);
+        x.go(1);
+        Check.places(x, 0);
+        Check.joys(x, 9 + 9 + 15 + 9);
     }
 
     // Section 2 (4): "Each is a MOVE": nobody would, so there is none

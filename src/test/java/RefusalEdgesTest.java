@@ -40,7 +40,7 @@ public final class RefusalEdgesTest {
         return b ? 1 : 0;
     }
 
-    // what the tests below build on
+    // "What is refused answers as told and changes nothing": what most of the tests below start from
     private static void theBusyEvening() {
         LostPlaces x = Edge.busy();
         Check.places(x, -2, 1, 2);
@@ -167,7 +167,7 @@ public final class RefusalEdgesTest {
         refuse(NEW, -2, "fault", (x, n) -> x.fault(n), -1, 2);
     }
 
-    // Promise 4: to ask for a FAULT, of a whole text or not, changes nothing
+    // Promise 4: "The FAULT of the TAPE": to ask for it, of a whole text or not, changes nothing
     private static void faultChangesNothing() {
         refuse(BUSY, NONE, "fault", (x, n) -> x.fault(n), 0);
         refuse(BUSY, 0, "fault", (x, n) -> x.fault(n), 1);
@@ -178,6 +178,36 @@ public final class RefusalEdgesTest {
             return x;
         };
         refuse(taste, NONE, "fault", (x, n) -> x.fault(n), 1);
+    }
+
+    // Promise 4: "The FAULT of the TAPE as .. a TASTE": that text, with one or without, leaves nothing in the one taken next
+    private static void faultOfATasteLeavesNothing() {
+        for (String text : new String[] {"y:3", "y:w=1?4;y:5", "y:w=20?6;y:", "y:!(w=1|w=2", ""}) {
+            LostPlaces x = Check.room("sw20;p");
+            Check.feed(x, text);
+            x.fault(1);
+            x.text(2);
+            x.end(0);
+            Check.taste(x, "y:w<20?1;y:2");
+            due("likes behind a fault of \"" + text + "\"", x.likes(0, 0), 2);
+            Check.feed(x, text);
+            x.fault(1);
+            due("likes by the one that holds", x.likes(0, 0), 2);
+        }
+    }
+
+    // Promise 4: "The FAULT of the TAPE as a ROOM": that text leaves nothing in the one taken next
+    private static void faultOfARoomLeavesNothing() {
+        LostPlaces x = new LostPlaces();
+        Check.feed(x, "sw1f2x3;s;ps1q9b8k7;p;gp1m4d5;g;ef6t7");
+        due("fault(0)", x.fault(0), NONE);
+        x.end(0);
+        Check.feed(x, "s;p");
+        due("text(0)", x.text(0), 1);
+        int[] counts = {1, 1, 0, 0, 0, NONE, 0, 60, 20, 0, 0, 0, 0};
+        for (int what = 0; what < counts.length; what++) due("count(" + what + ")", x.count(what), counts[what]);
+        due("seat(0, 0)", x.seat(0, 0), 10);
+        Check.places(x, -1);
     }
 
     // ---- promise 5
@@ -913,7 +943,7 @@ public final class RefusalEdgesTest {
         for (int what = 0; what < counts.length; what++) due("count(" + what + ")", x.count(what), counts[what]);
     }
 
-    // Promise 39: each of them in a ROOM
+    // Promise 39: "0 SEATS, 1 SITTERS, 2 GOINGS, 3 TASTES, 4 bytes of the TAPE": each of them in a ROOM
     private static void countInARoom() {
         LostPlaces x = Edge.busy();
         int[] counts = {3, 3, 2, 2, 5, 1, 1, 9, 5, 20, 2, 4, 1};

@@ -55,7 +55,7 @@ public final class TasteTextEdgesTest {
         early("y:1;", "y:2", "y:1; ", "y:2");
     }
 
-    // Terms: "CLAUSES: y, : , perhaps CONDITION ?, then SUM": each begins with y
+    // Terms: CLAUSES: "y, : , perhaps CONDITION ?, then SUM": each begins with y
     private static void eachClauseBeginsWithY() {
         for (int sign = 1; sign <= 255; sign++) {
             if (sign != 'y' && sign != ' ') wrong((char) sign + ":1", 0, "y:1;" + (char) sign, 4);
@@ -151,14 +151,16 @@ public final class TasteTextEdgesTest {
         }
     }
 
-    // Terms: SUM, CONDITION: what may stand behind an ATOM: nothing else goes on
+    // Terms: "TERMS with + or - between", "ATOMS with * or / between", "one of = < >": nothing else stands behind an ATOM
     private static void nothingElseBehindAnAtom() {
         for (int sign = 1; sign <= 255; sign++) {
             if ("+-*/ ".indexOf(sign) >= 0) continue;
             if ("=<>;".indexOf(sign) < 0) wrong("y:w" + (char) sign, 3);
             if (sign != ']') wrong("y:[w" + (char) sign, 4);
             if (sign != ';') wrong("y:w=1?w" + (char) sign, 7);
-            if ("&|?0123456789".indexOf(sign) < 0) wrong("y:w=1" + (char) sign, 5);
+            if ("&|?".indexOf(sign) < 0) wrong("y:w=w" + (char) sign, 5);
+            if ("=<>".indexOf(sign) < 0) wrong("y:(w" + (char) sign, 4, "y:!w" + (char) sign, 4, "y:w=w&w" + (char) sign, 7);
+            if ("&|)".indexOf(sign) < 0) wrong("y:(w=w" + (char) sign, 6);
         }
         early("y:w+", "1", "y:w=", "1?1", "y:w;", "y:1", "y:w=1?w;", "y:1", "y:[w+", "1]");
     }
