@@ -380,6 +380,7 @@ public final class GameEdgesTest {
     // Section 3: BEEN: "those that are not in it do not happen": by the question alone: undone minutes have their GOINGS yet
     private static void beenIsApart() {
         LostPlaces x = Check.room("s;ps0;gm1d1;gm6d1;et9");
+        been(x, 0, 1, 2, 3);
         x.go(4);
         been(x, 0, 2);
         for (int i = 0; i < 4; i++) x.undo();

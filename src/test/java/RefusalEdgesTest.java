@@ -282,6 +282,32 @@ public final class RefusalEdgesTest {
         due("been(-1)", x.been(-1), 1);
     }
 
+    // Promise 5: "all that was of another one is gone": behind the largest ROOM the smallest one has no more than its own
+    private static void smallestRoomBehindTheLargest() {
+        String most = "sw99f99x19" + Edge.times(";sw99f99x19", 7) + Edge.times(";pq9b99k9", 8) + Edge.times(";gm0d9", 10);
+        LostPlaces x = Check.room(most + ";ef0t99");
+        x.go(20);
+        for (int p = 0; p < 7; p++) x.up(p, 9);
+        Check.addRoom(x, "sw9;p;p;et9");
+        x.go(1);
+        Check.places(x, 0, -1);
+        x.up(0, 1);
+        x.up(1, 1);
+        x.go(2);
+        Check.places(x, 0, -1);
+        Check.joys(x, 18, 0);
+        due("count(10)", x.count(10), 1);
+        due("best(1, 0)", x.best(1, 0), NONE);
+        due("sure(0)", x.sure(0), 1);
+        due("envy()", x.envy(), 2);
+        due("even()", x.even(), 18);
+        due("ladder(1)", x.ladder(1), NONE);
+        due("rests(0, -1) of two", x.rests(0, -1) > 0 ? 1 : 0, 1);
+        due("fair(1, 1)", x.fair(1, 1) >= 0 ? 1 : 0, 1);
+        due("been(-1)", x.been(-1), 1);
+        due("going(0, 0)", x.going(0, 0), NONE);
+    }
+
     // Promise 5: "(.. is gone but TASTES, which holds, RESTLESS)"
     private static void whatAnotherRoomLeaves() {
         LostPlaces x = Edge.busy();
