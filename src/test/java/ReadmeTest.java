@@ -9,7 +9,6 @@ import java.nio.file.Files;
 import java.nio.file.Path;
 import java.util.regex.Matcher;
 import java.util.regex.Pattern;
-import javax.tools.ToolProvider;
 
 /** README.md names every call, and what its code shows is so: it is compiled and run, each answer behind // compared. */
 public final class ReadmeTest {
@@ -71,10 +70,9 @@ public final class ReadmeTest {
         Path folder = Files.createTempDirectory("readme");
         try {
             Path source = Files.writeString(folder.resolve("Shown.java"), program);
-            String classes = System.getProperty("java.class.path");
-            int compiled = ToolProvider.getSystemJavaCompiler().run(null, null, null,
-                    "-cp", classes, "-d", folder.toString(), source.toString());
-            return compiled == 0 ? answer(folder) : 1;
+            Process compiler = new ProcessBuilder("javac", "-cp", System.getProperty("java.class.path"),
+                    "-d", folder.toString(), source.toString()).inheritIO().start();
+            return compiler.waitFor() == 0 ? answer(folder) : 1;
         } finally {
             clear(folder);
         }
